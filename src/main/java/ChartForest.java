@@ -120,7 +120,7 @@ public final class ChartForest {
         if (!isSet(i) || !isNonterminal(symbol)) {
             throw new IndexOutOfBoundsException();
         }
-        // The leaps of the last set are those of an earlier set of this number, or not yet made.
+        // What is kept for the last set may still be from before something was taken back.
         if (i == tape.length) {
             return NO_LEAP;
         }
@@ -368,7 +368,7 @@ public final class ChartForest {
         }
 
         private void close(int set) {
-            for (int at = 0; at < agendaSize; at++) {
+            for (int at = 0; at < agendaSize && at < agenda.length; at++) {
                 int slot = agenda[at] / PLACES;
                 int origin = agenda[at] % PLACES;
                 int symbol = grammar.behind[slot];
@@ -417,7 +417,8 @@ public final class ChartForest {
             if (slot == NOTHING || grammar.behind[slot + 1] != NOTHING) {
                 return NO_LEAP;
             }
-            int origin = Integer.numberOfTrailingZeros(origins[set][slot]);
+            // Just one bit is set, so as many are below it as its number.
+            int origin = Integer.bitCount(origins[set][slot] - 1);
             int left = leftSide(slot);
             if (origin < set && left != NOTHING && named[origin][left] != NO_LEAP) {
                 return named[origin][left];
@@ -495,10 +496,13 @@ public final class ChartForest {
             int third = grammar.behind[slot + 2];
             for (int one = second == NOTHING ? to : from; one <= to; one++) {
                 long before = counts.over(first, from, one);
-                if (before != 0) {
-                    for (int two = third == NOTHING ? to : one; two <= to; two++) {
-                        long after = product(counts.over(second, one, two), counts.over(third, two, to));
-                        keep(rule, one, two, product(before, after));
+                if (before == 0) {
+                    continue;
+                }
+                for (int two = third == NOTHING ? to : one; two <= to; two++) {
+                    long both = product(before, counts.over(second, one, two));
+                    if (both != 0) {
+                        keep(rule, one, two, product(both, counts.over(third, two, to)));
                     }
                 }
             }
@@ -553,12 +557,12 @@ public final class ChartForest {
         /** The stretches with an end below this one are counted. */
         private int readyEnds;
 
-        /** Cells that wait for their turn or, as they had it, were met. */
+        /** The cells that were met, or those whose trees are still to be listed. */
         private final int[] cells = new int[CELLS];
         private final boolean[] met = new boolean[CELLS];
         private int cellCount;
 
-        /** Of each cell that waits: the number of the tree that is listed. */
+        /** Of each cell whose tree is still to be listed: the tree's number. */
         private final long[] numbers = new long[CELLS];
 
         Forest(Grammar grammar, Tape tape) {
@@ -634,7 +638,7 @@ public final class ChartForest {
             if (treesOver(0, 0, tape.length) != 0) {
                 meet(cellOf(0, 0, tape.length));
             }
-            for (int at = 0; at < cellCount; at++) {
+            for (int at = 0; at < cellCount && at < CELLS; at++) {
                 gatherCell(cells[at]);
                 for (int way = 0; way < ways.count; way++) {
                     meetParts(way);
