@@ -281,7 +281,7 @@ public final class ChartForest {
         private final int[][] origins = new int[PLACES][SLOTS];
         private final int[] sizes = new int[PLACES];
 
-        /** Of each set and nonterminal: slot * PLACES + origin of the item that is named. */
+        /** Of each set and nonterminal: slot * PLACES + origin of the item that is named, or NO_LEAP. */
         private final int[][] named = new int[PLACES][NONTERMINALS];
 
         /** The items of the set that is being made, as slot * PLACES + origin, in the order they came. */
@@ -325,7 +325,7 @@ public final class ChartForest {
         }
 
         int writtenLeap(int set, int symbol) {
-            int item = leaping ? named[set][symbol] : NO_LEAP;
+            int item = named[set][symbol];
             if (item == NO_LEAP) {
                 return NO_LEAP;
             }
@@ -399,7 +399,7 @@ public final class ChartForest {
             if (origin == set) {
                 completeHere |= 1 << left;
             }
-            if (leaping && origin < set && named[origin][left] != NO_LEAP) {
+            if (origin < set && named[origin][left] != NO_LEAP) {
                 put(set, named[origin][left] / PLACES, named[origin][left] % PLACES);
             } else {
                 advance(origin, left, set);

@@ -117,6 +117,10 @@ public final class ChartForestPromises {
     due("a wrong eleventh rule", () -> x.rule(0, 1, 7), ARGUMENT);
     due("feed(8)", () -> x.feed(8), 1 + 6 + 2 + 1 + 1);
     due("ways(0, 0, 1)", () -> x.ways(0, 0, 1), 6);
+    ChartForest again = made(0, "0:");
+    due("trees(0, 0, 0)", () -> again.trees(0, 0, 0), 1);
+    due("rule(0, 0, 0)", () -> again.rule(0, 0, 0), 1);
+    due("trees(0, 0, 0) after another rule", () -> again.trees(0, 0, 0), 2);
   }
 
   private static void feeds() {
@@ -136,10 +140,13 @@ public final class ChartForestPromises {
     due("feed(8)", () -> empty.feed(8), 2);
     ChartForest left = made(0, "0: 0 0 0", "0:");
     due("items(0)", () -> left.items(0), 2 + 4 + 1);
+    ChartForest late = made(0, "3: 1 8", "0: 1 3", "1:");
+    due("items(0)", () -> late.items(0), 1 + 2 + 1 + 2);
+    due("feed(8)", () -> late.feed(8), 3);
   }
 
   private static void backs() {
-    ChartForest x = made(1, "0: 8 0", "0: 9", "0: 8");
+    ChartForest x = made(1, "0: 8 0", "0: 9", "0: 8", "0: 9");
     due("back(0)", () -> x.back(0), 0);
     due("back(1) of nothing", () -> x.back(1), ARGUMENT);
     feed(x, 8, 8, 8, 9);
@@ -149,15 +156,16 @@ public final class ChartForestPromises {
     due("back(MAX)", () -> x.back(Integer.MAX_VALUE), ARGUMENT);
     due("back(MIN)", () -> x.back(Integer.MIN_VALUE), ARGUMENT);
     due("back(0)", () -> x.back(0), 4);
-    due("trees(0, 2, 4)", () -> x.trees(0, 2, 4), 1);
+    due("trees(0, 2, 4)", () -> x.trees(0, 2, 4), 2);
+    due("trees(0, 2, 3)", () -> x.trees(0, 2, 3), 1);
     due("back(2)", () -> x.back(2), 2);
     due("items(3)", () -> x.items(3), INDEX);
     due("leap(2, 0)", () -> x.leap(2, 0), -1);
     due("expected()", () -> x.expected(), 3);
     due("trees(0, 2, 4)", () -> x.trees(0, 2, 4), INDEX);
-    due("feed(9)", () -> x.feed(9), 2);
+    due("feed(9)", () -> x.feed(9), 3);
     due("leap(2, 0)", () -> x.leap(2, 0), 100);
-    due("trees(0, 2, 3) after another terminal", () -> x.trees(0, 2, 3), 1);
+    due("trees(0, 2, 3) after another terminal", () -> x.trees(0, 2, 3), 2);
     due("listed", () -> listed(x, 0), "0 0 1");
     due("back(3)", () -> x.back(3), 0);
     due("has(0, 0, 0, 0)", () -> x.has(0, 0, 0, 0), true);
@@ -238,8 +246,9 @@ public final class ChartForestPromises {
     ChartForest two = feed(made(1, "0: 8 1", "0: 8 1", "1: 9"), 8, 9);
     due("leap(1, 1) of two items", () -> two.leap(1, 1), -1);
     due("items(2) of two items", () -> two.items(2), 4);
-    ChartForest origins = feed(made(1, "0: 8 0", "0: 1 8", "1:", "0: 8"), 8, 8);
-    due("leap(1, 0), one item though its rule waits anew behind", () -> origins.leap(1, 0), 100);
+    ChartForest origins = feed(made(1, "0: 1 0", "1: 8", "1: 8 8", "0: 9"), 8, 8, 9);
+    due("leap(1, 0) of one item", () -> origins.leap(1, 0), 100);
+    due("leap(2, 0) of one rule and dot with two origins", () -> origins.leap(2, 0), -1);
     ChartForest inner = feed(made(1, "0: 1 1", "1: 8"), 8, 8);
     due("leap(0, 1) of a symbol with the same one behind it", () -> inner.leap(0, 1), -1);
     due("leap(1, 1)", () -> inner.leap(1, 1), 100);
@@ -286,6 +295,12 @@ public final class ChartForestPromises {
         8, 8, 8, 8, 8, 8, 8, 8, 8, 8, 8, 8);
     due("trees(0, 0, 12), above the limit", () -> more.trees(0, 0, 12), 1000000000000L);
     due("trees(0, 0, 8)", () -> more.trees(0, 0, 8), 429L * 43046721L);
+    ChartForest twelves = twelves();
+    due("trees(0, 0, 12), near the limit", () -> twelves.trees(0, 0, 12), 743008370688L);
+    ChartForest wide = made(0, "1:", "1:", "1:", "1:", "2: 1 1 1", "3: 2 2 2", "4: 3 3 3", "0: 4 4 4");
+    due("trees(3, 0, 0)", () -> wide.trees(3, 0, 0), 262144);
+    due("trees(4, 0, 0), above the limit", () -> wide.trees(4, 0, 0), 1000000000000L);
+    due("trees(0, 0, 0), above all longs", () -> wide.trees(0, 0, 0), 1000000000000L);
   }
 
   /** Ten trees for each terminal, so that k's digits tell the choices: 10 to the 12th in all. */
@@ -293,9 +308,16 @@ public final class ChartForestPromises {
     return feed(made(0, "0: 1 0", "0: 1 0", "1: 8", "1: 8", "1: 8", "1: 8", "1: 8", "0:"), 8, 8, 8, 8, 8, 8, 8, 8, 8, 8, 8, 8);
   }
 
+  /** Twelve trees for each 8, behind a 9 that has one: 12 to the 11th in all. */
+  private static ChartForest twelves() {
+    return feed(made(0, "0: 9 0", "0: 1 0", "0: 1 0", "0: 1 0", "1: 8", "1: 8", "1: 8", "1: 8", "0:"),
+        9, 8, 8, 8, 8, 8, 8, 8, 8, 8, 8, 8);
+  }
+
   private static void nodesOfTrees() {
     ChartForest x = feed(made(0, "0: 1 2", "1: 8", "1:", "2: 1", "2: 9", "3: 8"), 8);
     due("nodes()", () -> x.nodes(), 1 + 3 + 2);
+    due("nodes() once more", () -> x.nodes(), 1 + 3 + 2);
     ChartForest none = feed(made(0, "0: 8 9"), 8);
     due("nodes() without a tree", () -> none.nodes(), 0);
     ChartForest loop = feed(made(0, "0: 0", "0: 8"), 8);
@@ -335,6 +357,9 @@ public final class ChartForestPromises {
     due("a tree with its choices in k", () -> listed(tens, 12345678905L), "0 3 0 4 0 5 0 6 1 2 1 3 1 4 1 5 1 6 0 2 1 2 7");
     due("the last tree", () -> listed(tens, 99999999999L), "1 6 1 6 1 6 1 6 1 6 1 6 1 6 1 6 1 6 1 6 1 6 7");
     due("no tree", () -> tens.tree(100000000000L, 0), ELEMENT);
+    due("a late tree", () -> listed(twelves(), 743008370687L), "0 3 7 3 7 3 7 3 7 3 7 3 7 3 7 3 7 3 7 3 7 3 7 8");
+    ChartForest wide = made(0, "0: 1 1 1", "1: 2 2 2", "2:", "2:");
+    due("a tree of nothing fed", () -> listed(wide, 0b010_110_001), "0 1 2 3 2 1 3 3 2 1 2 2 3");
   }
 
   private static String shown(Member member, Class<?>[] parameters, Class<?>[] thrown, Class<?> answer) {
