@@ -8,64 +8,7 @@ import java.util.List;
 import java.util.TreeSet;
 
 /** Each promise of the document with ordinary inputs, the edges that it names, and wrong inputs. */
-public final class ChartForestPromises {
-  private static final String ARGUMENT = "throws.IllegalArgumentException";
-  private static final String STATE = "throws.IllegalStateException";
-  private static final String INDEX = "throws.IndexOutOfBoundsException";
-  private static final String ELEMENT = "throws.NoSuchElementException";
-
-  private static int wrong = 0;
-  private static String promise = "";
-
-  private interface Call {
-    Object answer();
-  }
-
-  private static void due(String what, Call call, Object want) {
-    String got;
-    try {
-      got = String.valueOf(call.answer());
-    } catch (RuntimeException e) {
-      got = "throws." + e.getClass().getSimpleName();
-    }
-    if (!got.equals(String.valueOf(want))) {
-      wrong++;
-      System.out.println(promise + ": " + what + " answered " + got + ", due is " + want);
-    }
-  }
-
-  /** A rule in the form "0: 8 1", with nothing behind the colon for an empty body. */
-  private static int rule(ChartForest x, String text) {
-    String[] sides = text.split(":", -1);
-    String[] symbols = sides[1].isBlank() ? new String[0] : sides[1].trim().split(" ");
-    int body = 0;
-    for (int i = 0; i < symbols.length; i++) body |= Integer.parseInt(symbols[i]) << (4 * i);
-    return x.rule(Integer.parseInt(sides[0].trim()), symbols.length, body);
-  }
-
-  private static ChartForest made(int leaps, String... rules) {
-    ChartForest x = new ChartForest(leaps);
-    for (String rule : rules) rule(x, rule);
-    return x;
-  }
-
-  private static ChartForest feed(ChartForest x, int... terminals) {
-    for (int terminal : terminals) x.feed(terminal);
-    return x;
-  }
-
-  private static String listed(ChartForest x, long k) {
-    List<String> rules = new ArrayList<>();
-    for (int p = 0; p < 100; p++) {
-      try {
-        rules.add(Integer.toString(x.tree(k, p)));
-      } catch (java.util.NoSuchElementException e) {
-        break;
-      }
-    }
-    return String.join(" ", rules);
-  }
-
+public final class ChartForestPromises extends Checks {
   private static void newObject() {
     for (int leaps : new int[] {0, 1, -7}) {
       ChartForest x = new ChartForest(leaps);
@@ -392,11 +335,6 @@ public final class ChartForestPromises {
     due("final", () -> Modifier.isFinal(ChartForest.class.getModifiers()), true);
   }
 
-  private static void check(String name, Runnable part) {
-    promise = name;
-    part.run();
-  }
-
   public static void main(String[] args) {
     check("the face", ChartForestPromises::face);
     check("promise 1", ChartForestPromises::newObject);
@@ -411,7 +349,6 @@ public final class ChartForestPromises {
     check("promise 12", ChartForestPromises::treesOfStretches);
     check("promise 13", ChartForestPromises::nodesOfTrees);
     check("promise 14", ChartForestPromises::listedTrees);
-    System.out.println(wrong == 0 ? "all promises hold" : wrong + " answers are not as due");
-    if (wrong != 0) System.exit(1);
+    end();
   }
 }
