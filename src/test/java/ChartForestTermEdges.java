@@ -77,6 +77,8 @@ public final class ChartForestTermEdges extends Checks {
       ChartForest x = made(0, "0: 1 9", "1: 8 8 8");
       rows(x, "has 0 1 0 0 = true", "has 0 0 4 0 = false", "has 0 2 -4 0 = false", "has 0 -1 4 0 = false", "has 0 -1 8 0 = false");
       rows(x, "has 0 1 -1 0 = false", "has 0 0 -4 0 = false", "has 0 -2 4 0 = false", "has 0 -2 0 0 = false");
+      rows(x, "has 0 -1 -1 0 = false", "has 0 -1 -4 0 = false", "has 0 9 4 0 = false", "has 0 10 3 0 = false");
+      rows(feed(made(0, "0: 8 8 8", "0: 8"), 8, 8, 8), "has 3 0 3 0 = true", "has 3 1 -1 0 = false");
     });
     check("the goal is the rule -1: its body is the symbol 0", () ->
         rows(feed(made(0, "0: 8", "1: 9"), 8), "has 0 -1 0 0 = true", "has 0 -1 1 0 = false", "has 1 -1 1 0 = true",
@@ -103,6 +105,7 @@ public final class ChartForestTermEdges extends Checks {
     check("complete in its own set, whether before or after an item waits for it", () -> {
       rows(made(0, "3: 1 8", "0: 1 3", "1:"), "items 0 = 6", "has 0 0 1 0 = true", "has 0 0 2 0 = false", "has 0 1 1 0 = true", "has 0 1 2 0 = false");
       rows(made(0, "0: 1 1 1", "1:"), "items 0 = 7", "has 0 0 3 0 = true", "has 0 -1 1 0 = true");
+      rows(made(0, "0: 1 2 3", "1:", "2:", "3: 1 2 8"), "items 0 = 9", "has 0 0 2 0 = true", "has 0 3 1 0 = true", "has 0 3 2 0 = true", "feed 8 = 3", "accepts = true");
     });
     check("an origin is a set: from 0 to the item's own", () -> {
       ChartForest x = feedTimes(made(0, "0: 8 0", "0:"), 12, 8);
