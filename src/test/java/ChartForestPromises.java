@@ -332,7 +332,15 @@ public final class ChartForestPromises extends Checks {
     due("what is open", () -> open, want);
     due("open fields", () -> Arrays.stream(ChartForest.class.getDeclaredFields())
         .filter(f -> !Modifier.isPrivate(f.getModifiers())).count(), 0);
-    due("final", () -> Modifier.isFinal(ChartForest.class.getModifiers()), true);
+    due("open classes inside", () -> Arrays.stream(ChartForest.class.getDeclaredClasses())
+        .filter(c -> Modifier.isPublic(c.getModifiers()) || Modifier.isProtected(c.getModifiers())).count(), 0);
+    due("what the class is", () -> Modifier.toString(ChartForest.class.getModifiers()), "public final");
+    due("what the class extends", () -> ChartForest.class.getSuperclass().getSimpleName(), "Object");
+    due("what the class implements", () -> ChartForest.class.getInterfaces().length, 0);
+    due("what is static and open", () -> Arrays.stream(ChartForest.class.getDeclaredMethods())
+        .filter(m -> Modifier.isStatic(m.getModifiers()) && !Modifier.isPrivate(m.getModifiers())).count(), 0);
+    due("open, but not public", () -> Arrays.stream(ChartForest.class.getDeclaredMethods())
+        .filter(m -> !Modifier.isPublic(m.getModifiers()) && !Modifier.isPrivate(m.getModifiers())).count(), 0);
   }
 
   public static void main(String[] args) {
