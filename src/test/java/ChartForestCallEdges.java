@@ -188,7 +188,8 @@ public final class ChartForestCallEdges extends Checks {
     check("9: no such set, whatever the item", () -> rows(new ChartForest(0), "has 1 99 99 99 = I", "has -1 -2 -1 -1 = I"));
     check("9: whether set i has an item: no such rule", () ->
         rows(made(0, LIST), "has 0 -1 0 0 = true", "has 0 -2 0 0 = false", "has 0 1 0 0 = true", "has 0 2 0 0 = false", "has 0 9 0 0 = false", "has 0 10 0 0 = false",
-            "has 0 11 0 0 = false", "has 0 MIN 0 0 = false", "has 0 MAX 0 0 = false"));
+            "has 0 11 0 0 = false", "has 0 MIN 0 0 = false", "has 0 MAX 0 0 = false", "has 0 0x3FFFFFFF 0 0 = false",
+            "has 0 0x7FFFFFFE 0 0 = false", "has 0 -0x40000001 0 0 = false"));
     check("9: whether set i has an item: no such dot", () ->
         rows(feed(made(0, "0: 8 8 8", "0: 8"), 8, 8, 8), "has 3 0 3 0 = true", "has 3 0 4 0 = false", "has 0 0 0 0 = true", "has 0 0 -1 0 = false", "has 1 1 1 0 = true",
             "has 1 1 2 0 = false", "has 0 0 MIN 0 = false", "has 0 0 MAX 0 = false"));
@@ -242,6 +243,18 @@ public final class ChartForestCallEdges extends Checks {
       rows(feed(nines(), 8), "trees 0 0 12 = 1000000000000");
       ChartForest wide = made(0, "1:", "1:", "1:", "1:", "2: 1 1 1", "3: 2 2 2", "4: 3 3 3", "0: 4 4 4", "0: 4", "0: 4");
       rows(wide, "trees 3 0 0 = 262144", "trees 4 0 0 = 1000000000000", "trees 0 0 0 = 1000000000000", "ways 0 0 0 = 3", "tree 0 0 = E", "nodes = 5");
+    });
+    check("12: 1000000000000 for more: where a product of longs would come out as 0, or below it", () -> {
+      ChartForest none = made(0, "1:", "1:", "1:", "1:", "2: 1 1 1", "3: 2 2 2", "4: 3 3", "0: 4 4");
+      rows(none, "trees 4 0 0 = 68719476736", "trees 0 0 0 = 1000000000000", "ways 0 0 0 = 1", "nodes = 5", "tree 0 0 = E");
+      ChartForest below = made(0, "1:", "1:", "2: 1 1 1", "3: 2 2 2", "4: 3 3 3", "0: 4 3 4");
+      rows(below, "trees 3 0 0 = 512", "trees 4 0 0 = 134217728", "trees 0 0 0 = 1000000000000", "nodes = 5", "tree 0 0 = E", "tree -1 0 = E");
+    });
+    check("12: -1 for endless many, also in one way with more than 1000000000000", () -> {
+      for (String both : new String[] {"0: 4 0", "0: 0 4", "0: 4 0 4", "0: 4 4 0"}) {
+        ChartForest x = made(0, "1:", "1:", "1:", "1:", "2: 1 1 1", "3: 2 2 2", "4: 3 3 3", both, "0:");
+        rows(x, "trees 4 0 0 = 1000000000000", "trees 0 0 0 = -1", "ways 0 0 0 = 2", "nodes = 5", "tree 0 0 = E");
+      }
     });
     check("12: -1 for endless many, also beside more than 1000000000000", () -> {
       ChartForest x = made(0, "1:", "1:", "1:", "1:", "2: 1 1 1", "3: 2 2 2", "4: 3 3 3", "0: 4 4 4", "0: 4", "0: 0");
